@@ -928,27 +928,28 @@ public final class PaperStars {
                 changed = false;
                 for (int y = 0; y < size; y++) {
                     for (int x = 0; x < size; x++) {
-                        int cell = cellAt(x, y);
-                        changed |= x > 0 && lower(base, cell, cell - 1);
-                        changed |= y > 0 && lower(base, cell, cell - SIDE);
+                        int at = base + cellAt(x, y);
+                        int left = x > 0 ? cost[at - 1] : FAR;
+                        int above = y > 0 ? cost[at - SIDE] : FAR;
+                        changed |= lower(at, Math.min(left, above) + price[at - base]);
                     }
                 }
                 for (int y = size - 1; y >= 0; y--) {
                     for (int x = size - 1; x >= 0; x--) {
-                        int cell = cellAt(x, y);
-                        changed |= x < size - 1 && lower(base, cell, cell + 1);
-                        changed |= y < size - 1 && lower(base, cell, cell + SIDE);
+                        int at = base + cellAt(x, y);
+                        int right = x < size - 1 ? cost[at + 1] : FAR;
+                        int under = y < size - 1 ? cost[at + SIDE] : FAR;
+                        changed |= lower(at, Math.min(right, under) + price[at - base]);
                     }
                 }
             }
         }
 
-        private boolean lower(int base, int cell, int from) {
-            int by = cost[base + from] + price[cell];
-            if (by >= cost[base + cell]) {
+        private boolean lower(int at, int to) {
+            if (to >= cost[at]) {
                 return false;
             }
-            cost[base + cell] = by;
+            cost[at] = to;
             return true;
         }
     }
@@ -1072,7 +1073,7 @@ public final class PaperStars {
             long bare = numberPlaces(fit);
             listBoxes(fit.folding);
             for (int used = 0; used <= MOST_USED; used++) {
-                if (covers(bare, used)) {
+                if (covers(boxes, boxCount, bare, used)) {
                     return used;
                 }
             }
@@ -1139,7 +1140,7 @@ public final class PaperStars {
         }
 
         /** Whether so many boxes can cover all that is left; one of them must have its first. */
-        private boolean covers(long left, int used) {
+        private static boolean covers(long[] boxes, int count, long left, int used) {
             if (left == 0) {
                 return true;
             }
@@ -1147,8 +1148,9 @@ public final class PaperStars {
                 return false;
             }
             long first = left & -left;
-            for (int i = 0; i < boxCount; i++) {
-                if ((boxes[i] & first) != 0 && covers(left & ~boxes[i], used - 1)) {
+            for (int i = 0; i < count && i < MOST_BOXES; i++) {
+                if ((boxes[i] & first) != 0
+                        && covers(boxes, count, left & ~boxes[i], used - 1)) {
                     return true;
                 }
             }

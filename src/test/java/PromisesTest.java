@@ -18,7 +18,10 @@ public final class PromisesTest {
         fits();
         bestFold();
         snips();
+        drawnSnips();
         straight();
+        farLines();
+        drawnLines();
         scraps();
         alike();
         strips();
@@ -164,6 +167,11 @@ public final class PromisesTest {
         sumsAre("bridge", Checks.cooked(6, ":r2,0-2,1;r2,3-2,5;r0,3-5,5"),
                 16, 1, 16, 0, 0, 22, 3);
         sumsAre("comb", Checks.cooked(4, ":r1,0-1,2;r3,0-3,2"), 10, 1, 10, 0, 0, 22, 7);
+        due("9: open to the left", Checks.cooked(6, ":r0,2-2,3").sums(4), 0);
+        due("9: open to the right", Checks.cooked(6, ":r3,2-5,3").sums(4), 0);
+        due("9: open at the top", Checks.cooked(6, ":r2,0-3,2").sums(4), 0);
+        due("9: open at the bottom", Checks.cooked(6, ":r2,3-3,5").sums(4), 0);
+        due("9: open nowhere", Checks.cooked(6, ":r1,1-4,4").sums(4), 1);
         PaperStars stars = Checks.sheet(4);
         due("9: sums -1", stars.sums(-1), -1);
         due("9: sums 7", stars.sums(7), -1);
@@ -340,6 +348,9 @@ public final class PromisesTest {
         // all rows are alike: two v leave one of them
         Checks.wantRows(stars, "#.##", "#.##", "#.##", "#.##");
         best("vv", stars, 0, 2, 0, 4, 1);
+        PaperStars big = new PaperStars();
+        big.want(2, 65534);
+        best("none of 16", big, 0, 0, 0, 256, 1);
         due("17: others", stars.bestFold(5), -1);
         due("17: others", stars.bestFold(-1), -1);
         PaperStars two = Checks.sheet(2);
@@ -370,6 +381,7 @@ public final class PromisesTest {
         due("18: corner", wanted(4, "....", "....", "....", "....").snips(0, 0, 1), 1);
         due("18: in a corner", wanted(4, "...#", "...#", "...#", "####").snips(0, 0, 1), 1);
         due("18: on the slant", wanted(4, ".###", "#.##", "##.#", "###.").snips(0, 0, 1), 4);
+        due("18: round the slant", wanted(4, "#..#", ".#.#", "..##", "####").snips(0, 0, 1), 2);
         PaperStars stars = wanted(4, "#...", "####", "####", "####");
         due("18: no fit", stars.snips(1, 0, 0), -3);
         due("18: can't be", stars.snips(3, 0, 0), -1);
@@ -389,6 +401,45 @@ public final class PromisesTest {
                 ".######.", ".######.", "........").snips(0, 0, 0), 4);
         due("18: the last places", wanted(8, "########", "########", "########", "########",
                 "########", "########", "########", "######..").snips(0, 0, 0), 1);
+    }
+
+    /** Boxes drawn in the wedge of some folds, opened to what is wanted. */
+    private static void drawnSnips() {
+        java.util.Random random = new java.util.Random(18);
+        int[][] folds = {{4, 0, 0, 0}, {4, 0, 0, 1}, {6, 0, 0, 1}, {6, 0, 1, 0}, {8, 0, 0, 1},
+            {8, 0, 0, 0}, {10, 0, 0, 1}, {16, 2, 0, 0}, {16, 0, 2, 0}, {16, 1, 1, 1}};
+        for (int i = 0; i < 400; i++) {
+            int[] by = folds[i % folds.length];
+            PaperStars stars = Checks.sheet(by[0]);
+            SlowStars slow = new SlowStars();
+            slow.sheet(by[0]);
+            int boxes = 1 + random.nextInt(6);
+            boolean[] bare = new boolean[256];
+            for (int j = 0; j < boxes; j++) {
+                int x = random.nextInt(by[0] >> by[1]);
+                int y = random.nextInt(by[0] >> by[2]);
+                int w = 1 + random.nextInt(5);
+                int h = 1 + random.nextInt(5);
+                for (int k = 0; k < w * h; k++) {
+                    int at = 16 * (y + k / w) + x + k % w;
+                    if (at < 256 && x + k % w < 16) {
+                        bare[at] = true;
+                    }
+                }
+            }
+            String letters = slow.lettersOf(by[1], by[2], by[3]);
+            for (int y = 0; y < by[0]; y++) {
+                int row = 0;
+                for (int x = 0; x < by[0]; x++) {
+                    int[] to = slow.place(letters, 0, x, y);
+                    row |= bare[16 * to[1] + to[0]] ? 0 : 1 << x;
+                }
+                stars.want(y, row);
+                slow.want(y, row);
+            }
+            due("18: drawn " + letters + " of " + by[0] + ", " + i,
+                    stars.snips(by[1], by[2], by[3]), slow.snips(by[1], by[2], by[3]));
+        }
     }
 
     private static void line(String name, PaperStars stars, int fold, int p, int q, int c) {
@@ -424,6 +475,56 @@ public final class PromisesTest {
         PaperStars first = new PaperStars();
         first.want(0, 65534);
         line("first cell of 16", first, 0, -3, -3, -3);
+    }
+
+    /** A sheet of 16 that wants no paper where p x + q y is above c. */
+    private static PaperStars above(int p, int q, int c) {
+        PaperStars stars = new PaperStars();
+        for (int y = 0; y < 16; y++) {
+            int row = 0;
+            for (int x = 0; x < 16; x++) {
+                row |= p * x + q * y > c ? 0 : 1 << x;
+            }
+            stars.want(y, row);
+        }
+        return stars;
+    }
+
+    private static void farLines() {
+        line("c 60", above(2, 3, 60), 0, 2, 3, 60);
+        line("c 61", above(2, 3, 61), 0, -1000, -1000, -1000);
+        line("c 60", above(3, 2, 60), 0, 3, 2, 60);
+        line("c 61", above(3, 2, 61), 0, -1000, -1000, -1000);
+        line("c -60", above(-3, -2, -60), 0, -3, -2, -60);
+        line("c -61", above(-3, -2, -61), 0, -1000, -1000, -1000);
+        line("c -60", above(-3, -3, -60), 0, -3, -3, -60);
+        line("c -61, less steep", above(-3, -3, -61), 0, -2, -2, -42);
+    }
+
+    /** Lines drawn on large sheets: also those whose c is at its ends or beyond them. */
+    private static void drawnLines() {
+        java.util.Random random = new java.util.Random(19);
+        for (int i = 0; i < 120; i++) {
+            int size = 12 + 2 * random.nextInt(3);
+            int p = random.nextInt(7) - 3;
+            int q = random.nextInt(7) - 3;
+            int c = i % 2 == 0 ? random.nextInt(60) - 30 : (57 + random.nextInt(7)) * (i % 4 - 2);
+            PaperStars stars = Checks.sheet(size);
+            SlowStars slow = new SlowStars();
+            slow.sheet(size);
+            for (int y = 0; y < size; y++) {
+                int row = 0;
+                for (int x = 0; x < size; x++) {
+                    row |= p * x + q * y > c ? 0 : 1 << x;
+                }
+                stars.want(y, row);
+                slow.want(y, row);
+            }
+            for (int what = 0; what < 3; what++) {
+                due("19: of " + size + " by " + p + " " + q + " " + c,
+                        stars.straight(0, 0, 0, what), slow.straight(0, 0, 0, what));
+            }
+        }
     }
 
     private static void scraps() {
@@ -495,6 +596,7 @@ public final class PromisesTest {
         due("22: one", stripped(255, 0, 255), 1);
         due("22: one", stripped(255, 1, 255), 0);
         due("22: one", stripped(255, 1, 1), 254);
+        due("22: shortest", stripped(1, 0, 1, 1, 1), 3);
         due("22: first fit fails", stripped(10, 0, 5, 4, 4, 3, 2, 2), 2);
         due("22: first fit fails", stripped(10, 1, 5, 4, 4, 3, 2, 2), 0);
         due("22: ten", stripped(9, 0, 5, 5, 5, 5, 5, 5, 5, 5, 5, 5), 10);
