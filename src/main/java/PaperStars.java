@@ -655,11 +655,13 @@ public final class PaperStars {
             return false;
         }
 
+        /** What a fold brings beyond the wedge is NONE: no later fold brings that back. */
         private static void turnOver(int[] to, int length, int slip) {
             int half = length >> 1;
             for (int i = 0; i < SIDE; i++) {
                 if (to[i] >= half) {
-                    to[i] = length - 1 - to[i] + slip;
+                    int over = length - 1 - to[i] + slip;
+                    to[i] = over >= 0 && over < half ? over : NONE;
                 }
             }
         }
@@ -668,13 +670,16 @@ public final class PaperStars {
             return x >= 0 && x < w && y >= 0 && y < h && !(diagonal && y > x);
         }
 
-        /** The place of a cell; NONE if it slipped beyond the wedge. */
+        /** The place of a cell; NONE if one of the folds brought it beyond the wedge. */
         int placeOf(int cellX, int cellY) {
             if (cellX < 0 || cellX >= size || cellY < 0 || cellY >= size) {
                 return NONE;
             }
             int x = toX[cellX];
             int y = toY[cellY];
+            if (x < 0 || y < 0) {
+                return NONE;
+            }
             if (diagonal && y > x) {
                 int over = x + diagonalSlip;
                 x = y;

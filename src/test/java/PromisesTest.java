@@ -647,14 +647,40 @@ public final class PromisesTest {
         due("23: d", d.slipped(1, 2, 3), 0);
         due("23: d", d.slipped(1, 3, 3), 0);
         due("24: d", d.spoilt(1), 1);
-        // x 4 of 8 comes to 4, beyond; folded once more it is at -1, and with a slip at 0 again
-        PaperStars twice = Checks.cooked(8, "hh:c(x=0)");
-        due("23: beyond and away", twice.slipped(1, 4, 0), 1);
-        due("23: beyond and back", twice.slipped(3, 4, 0), 0);
+        slipsBeyond();
         due("23: no folds", new PaperStars().slipped(0, 15, 15), 1);
         due("23: no folds", new PaperStars().slipped(1, 15, 15), -1);
         due("23: eight folds", Checks.cooked(16, "hhhhvvvv:s0,0").slipped(255, 0, 0), 0);
         due("23: eight folds", Checks.cooked(16, "hhhhvvvv:s0,0").slipped(256, 0, 0), -1);
+    }
+
+    /** What a slip brings beyond the wedge is never cut, whatever later folds do. */
+    private static void slipsBeyond() {
+        // x 4 of 8 comes to 4, beyond; W - 1 - x would be -1 at the next fold, and W - x 0
+        PaperStars twice = Checks.cooked(8, "hh:c(x=0)");
+        due("23: beyond, no more slips", twice.slipped(1, 4, 0), 1);
+        due("23: beyond, a second slip", twice.slipped(3, 4, 0), 1);
+        due("23: not beyond, a second slip", twice.slipped(3, 0, 0), 0);
+        due("23: not beyond, to 1 by the first", twice.slipped(1, 7, 0), 1);
+        due("23: 5 comes to 3, then to 0", twice.slipped(1, 5, 0), 0);
+        due("23: 5 comes to 3, then to 1", twice.slipped(3, 5, 0), 1);
+        due("23: 6 comes to 2, then beyond", twice.slipped(3, 6, 0), 1);
+        // x 0, 3, 4, 7 are cut without slips; 0, 3, 5 if the first slips; 0 alone if both do
+        due("24: the first slips", twice.spoilt(1), 24);
+        due("24: both slip", twice.spoilt(3), 24);
+        PaperStars down = Checks.cooked(8, "vv:c(y=0)");
+        due("23: v, a second slip", down.slipped(3, 0, 4), 1);
+        due("24: v, both slip", down.spoilt(3), 24);
+        PaperStars both = Checks.cooked(4, "hv:c(1=1)");
+        due("23: h beyond, v slips", both.slipped(3, 2, 3), 1);
+        due("23: v beyond, h slips", both.slipped(3, 3, 2), 1);
+        due("23: none beyond", both.slipped(3, 3, 3), 0);
+        // x 8 of 16 comes to 8, beyond; d's slip would bring x -1 to y 0
+        PaperStars late = Checks.cooked(16, "hhvvd:c(1=1)");
+        due("23: h beyond, d slips", late.slipped(17, 8, 0), 1);
+        due("23: h beyond, d slips", late.slipped(17, 8, 2), 1);
+        due("23: v beyond, d slips", late.slipped(20, 0, 8), 1);
+        due("23: d slips alone", late.slipped(16, 8, 2), 0);
     }
 
     private static void odd(PaperStars stars, int tenths, int k, long above, long below) {

@@ -428,7 +428,7 @@ final class SlowStars {
 
     // ---- folding and opening
 
-    /** The place a cell comes to by letters, as x and y; it may be beyond the wedge. */
+    /** The place a cell comes to by letters, as x and y; -1, -1 if a fold brings it beyond. */
     int[] place(String letters, int slips, int x, int y) {
         int w = size;
         int h = size;
@@ -449,6 +449,9 @@ final class SlowStars {
                 int t = x;
                 x = y;
                 y = slip ? t + 1 : t;
+            }
+            if (!inWedge(new int[] {w, h, c == 'd' ? 1 : 0}, x, y)) {
+                return new int[] {-1, -1};
             }
         }
         return new int[] {x, y};
