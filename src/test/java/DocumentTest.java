@@ -16,6 +16,7 @@ public final class DocumentTest {
         SlipSentences.ask(doc);
         KeptSentences.ask(doc);
         RefusedSentences.ask(doc);
+        AgainSentences.ask(doc);
         doc.end();
     }
 }

@@ -17,6 +17,7 @@ final class KeptSentences {
         all.keptLast();
         all.check();
         all.checkNumbers();
+        all.checkBytes();
         all.checkBeyond();
         all.noCheck();
         all.count();
@@ -203,6 +204,18 @@ final class KeptSentences {
         for (int number : new int[] {-1, 2, 3, 256, 257, 65537, 16777217, LEAST, LEAST + 1, MOST}) {
             checked("1 is due, not " + number, stars, 0, 4, 2, 1, 1, number, 1);
             checked("0 is due, not " + number, stars, 1, 4, 3, 0, 1, 1, number);
+        }
+    }
+
+    /** Each of the 64 bytes by itself makes its number a wrong one. */
+    private void checkBytes() {
+        doc.says("(0 to 16; four bytes each; empty then)");
+        PaperStars bare = Checks.cooked(16, ":c(1=1)");
+        for (int at = 0; at < 64; at++) {
+            int[] bytes = new int[80];
+            bytes[at] = at % 4 == 0 ? 128 : 1;
+            Checks.feed(bare, bytes);
+            doc.due("byte " + at, bare.check(15, 16), at / 4);
         }
     }
 

@@ -1,5 +1,3 @@
-import java.util.function.Function;
-
 /**
  * All that can be seen of an object, as a text: its sheet, its recipe, what is wanted, the tape,
  * X, and what was kept. Looking uses the object up (fewer than 400 of its 512 calls).
@@ -12,7 +10,7 @@ final class Look {
         this.stars = stars;
     }
 
-    /** The tape is seen as a recipe of so many bytes, at most. */
+    /** Of the tape the first 160 bytes are seen, as a recipe. */
     static String at(PaperStars stars) {
         Look look = new Look(stars);
         look.state("now");
@@ -56,11 +54,5 @@ final class Look {
         for (int cell = 0; cell < size * size; cell++) {
             put("opened", stars.opened(cell % size, cell / size));
         }
-    }
-
-    /** What one call leaves behind: the same call on an object that was made the same way. */
-    static String after(PaperStars made, Function<PaperStars, Long> call) {
-        call.apply(made);
-        return at(made);
     }
 }

@@ -23,6 +23,7 @@ final class OpenedSentences {
         all.deer();
         all.hang();
         all.hangWithDeer();
+        all.winding();
     }
 
     /** A sheet that is cut where the rows have no #. */
@@ -75,6 +76,11 @@ final class OpenedSentences {
                 doc.due("opened " + x + " " + y, stars.opened(x, y), (rows[y] >> x) & 1);
             }
         }
+        // a place that two snips have is cut all the same
+        doc.due("s and c", Checks.cooked(4, ":s0,0;c(x=0)").wedge(3), 4);
+        doc.due("c and c", Checks.cooked(4, ":c(x=0);c(y=0)").wedge(3), 7);
+        doc.due("c and s", Checks.cooked(4, ":c(x=0);s0,0").wedge(3), 4);
+        doc.due("r and r", Checks.cooked(4, ":r0,0-2,2;r1,1-3,3").wedge(3), 14);
         doc.due("all cut", Checks.cooked(16, ":c(1=1)").sums(0), 0);
         doc.due("none cut", Checks.cooked(16, ":c(1=2)").sums(0), 256);
         doc.due("all cut by one place", Checks.cooked(16, "hhhhvvvv:s0,0").sums(0), 0);
@@ -210,9 +216,16 @@ final class OpenedSentences {
         doc.due("an end", four.piece(1, 0, 2), 0);
         // a winding line of 16 rows: all but its two ends
         sums("most", Checks.cooked(16, ":c(y%4=1&x<15|y%4=3&x>0)"), 6, 8 * 16 + 8 - 2);
-        // the lowest cell itself
         PaperStars root = shaped("..#.", ".###", "....", "....");
         doc.due("the lowest is none", root.piece(2, 0, 2), 0);
+        PaperStars corner = shaped("##", "#.");
+        doc.due("the lowest is one", corner.piece(0, 0, 2), 1);
+        sums("the lowest alone is one", corner, 6, 1);
+        // large pieces that hang by one cell near the lowest or the last
+        sums("255 cells", Checks.cooked(16, ":s1,0"), 6, 1);
+        doc.due("near the lowest", Checks.cooked(16, ":s1,0").piece(0, 1, 2), 1);
+        sums("255 cells", Checks.cooked(16, ":s15,14"), 6, 1);
+        doc.due("near the last", Checks.cooked(16, ":s15,14").piece(14, 15, 2), 1);
         PaperStars bridge = shaped("#.##", "####", "#.##", "....");
         doc.due("a bridge", bridge.piece(1, 1, 2), 1);
         doc.due("beside it", bridge.piece(0, 1, 2), 1);
@@ -310,6 +323,12 @@ final class OpenedSentences {
         hang("three round one", shaped(".#..", "#.#.", "....", "...."), 1);
         hang("four round one", shaped(".#..", "#.#.", ".#..", "...."), 1);
         hang("four corners", shaped("#..#", "....", "....", "#..#"), 6);
+        // where the ways meet: in the first row, the first column, the last cell
+        hang("first row", Checks.cooked(16, ":c(!(y=0&x%6=0&x<7|x=3&y=6))"), 10);
+        hang("first column", Checks.cooked(16, ":c(!(x=0&y%6=0&y<7|y=3&x=6))"), 10);
+        hang("last row", Checks.cooked(8, ":c(!(y=7&(x=1|x=7)|x=4&y=1))"), 10);
+        hang("last cell", Checks.cooked(16, ":c(!(x=15&y=0|x=0&y=15|x=15&y=15))"), 28);
+        hang("first cell", Checks.cooked(16, ":c(!(x=15&y=0|x=0&y=15|x=0&y=0))"), 28);
         hang("six rows", Checks.cooked(12, ":c(y%2=1)"), 5);
         hang("six columns", Checks.cooked(12, ":c(x%2=1)"), 5);
         hang("six, farthest", Checks.cooked(16, ":c(x%15>0|y%15>0&!y=7)"), 14 + 2 * 13);
@@ -329,6 +348,63 @@ final class OpenedSentences {
             seven.deer(x, 1, true);
         }
         hang("seven that can't be", seven, -3);
+    }
+
+    /** Deer on all cells that are marked, and one way between two cells of paper. */
+    private void way(int want, String... rows) {
+        StringBuilder bare = new StringBuilder(":c(!(");
+        for (int cell = 0; cell < rows.length * rows.length; cell++) {
+            int x = cell % rows.length;
+            int y = cell / rows.length;
+            if (rows[y].charAt(x) == '#') {
+                bare.append("x=").append(x).append("&y=").append(y).append('|');
+            }
+        }
+        bare.setLength(bare.length() - 1);
+        PaperStars stars = Checks.cooked(rows.length, bare.append("))").toString());
+        for (int cell = 0; cell < rows.length * rows.length; cell++) {
+            int x = cell % rows.length;
+            int y = cell / rows.length;
+            if (rows[y].charAt(x) == 'd') {
+                stars.deer(x, y, true);
+            }
+        }
+        hang("a way of " + want, stars, want);
+    }
+
+    /** Ways that go along each border in each direction, and one that winds. */
+    private void winding() {
+        doc.says("HANG: fewest CELLS that get PAPER, no DEER, so that there is one PIECE"
+                + " (for 2 to 6 PIECES).");
+        way(5, "ddd#", "ddd.", "ddd.", "#...");
+        way(5, "#...", "ddd.", "ddd.", "ddd#");
+        way(5, "#ddd", ".ddd", ".ddd", "...#");
+        way(6, "dd#d", "#d.d", ".d.d", "...d");
+        way(6, "d#dd", "d.d#", "d.d.", "d...");
+        way(6, "d...", "#.d.", "dd#.", "dddd");
+        way(33, "#.......", "ddddddd.", "........", ".ddddddd", "........", "ddddddd.",
+                "#.......", "dddddddd");
+        way(29, "#.......", "ddddddd.", "d.....d.", "d.ddd.d.", "d.dd#.d.", "d.ddddd.", "d.......",
+                "dddddddd");
+        String[] rows = new String[16];
+        String[] columns = new String[16];
+        for (int y = 0; y < 16; y++) {
+            StringBuilder row = new StringBuilder();
+            StringBuilder column = new StringBuilder();
+            for (int x = 0; x < 16; x++) {
+                row.append(x == 0 && y % 14 == 0 ? '#' : isOpen(x, y) ? '.' : 'd');
+                column.append(y == 0 && x % 14 == 0 ? '#' : isOpen(y, x) ? '.' : 'd');
+            }
+            rows[y] = row.toString();
+            columns[y] = column.toString();
+        }
+        way(8 * 16 + 7 - 2, rows);
+        way(8 * 16 + 7 - 2, columns);
+    }
+
+    /** Every second row, and between two of them one end after the other. */
+    private static boolean isOpen(int x, int y) {
+        return y % 2 == 0 || y % 4 == 1 && x == 15 || y % 4 == 3 && x == 0;
     }
 
     private void hangWithDeer() {

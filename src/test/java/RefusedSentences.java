@@ -168,8 +168,8 @@ final class RefusedSentences {
 
     private static PaperStars full() {
         PaperStars stars = rich(false);
-        String text = ":c(x=" + "0+".repeat(76) + "0+1)";
-        Checks.feed(stars, text.replace("0+0+1)", "0+12)") + "a".repeat(40));
+        // 160 bytes are a recipe, and forty more come behind them
+        Checks.feed(stars, ":c(x=" + "0+".repeat(76) + "01)" + "a".repeat(40));
         return stars;
     }
 

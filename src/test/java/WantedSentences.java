@@ -243,8 +243,7 @@ final class WantedSentences {
     private void bestOfAllPatterns(int size) {
         doc.says("of like ones by the least a, then b, then d.");
         int most = Integer.numberOfTrailingZeros(size);
-        int step = size == 2 ? 1 : 7;
-        for (int pattern = 0; pattern < 1 << size * size; pattern += step) {
+        for (int pattern = 0; pattern < 1 << size * size; pattern++) {
             int fewest = 999;
             int best = -1;
             int like = 0;
