@@ -84,4 +84,11 @@ final class Checks {
             }
         }
     }
+
+    /** A sheet as large as the pattern that it wants. */
+    static PaperStars wanted(String... rows) {
+        PaperStars stars = sheet(rows.length);
+        wantRows(stars, rows);
+        return stars;
+    }
 }

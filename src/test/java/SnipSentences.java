@@ -24,53 +24,47 @@ final class SnipSentences {
         all.noScraps();
     }
 
-    private static PaperStars wanted(String... rows) {
-        PaperStars stars = Checks.sheet(rows.length);
-        Checks.wantRows(stars, rows);
-        return stars;
-    }
-
     private void snips() {
         doc.says("SNIPS of a FOLD that FITS, of at most 64 places: the fewest r (both ends in the"
                 + " WEDGE; places more than once are no harm), together on just all places without"
                 + " PAPER: 0 to 4.");
         doc.says("SNIPS of FOLDS: how many;");
-        doc.due("none", wanted("##", "##").snips(0, 0, 0), 0);
-        doc.due("one place", wanted("##", "#.").snips(0, 0, 0), 1);
-        doc.due("all places", wanted("..", "..").snips(0, 0, 0), 1);
-        doc.due("by corners", wanted(".#", "#.").snips(0, 0, 0), 2);
-        doc.due("round a corner", wanted("..", ".#").snips(0, 0, 0), 2);
-        doc.due("a cross: places twice", wanted("#.##", "....", "#.##", "#.##").snips(0, 0, 0), 2);
-        doc.due("three", wanted("####", ".###", "..##", "...#").snips(0, 0, 0), 3);
-        doc.due("four", wanted(".#.#", "#.#.", "####", "####").snips(0, 0, 0), 4);
-        doc.due("a ring", wanted("....", ".##.", ".##.", "....").snips(0, 0, 0), 4);
-        doc.due("fewer by folds", wanted("....", ".##.", ".##.", "....").snips(1, 1, 0), 2);
-        doc.due("one place of one", wanted("..", "..").snips(1, 1, 0), 1);
-        doc.due("no place of one", wanted("##", "##").snips(1, 1, 0), 0);
+        doc.due("none", Checks.wanted("##", "##").snips(0, 0, 0), 0);
+        doc.due("one place", Checks.wanted("##", "#.").snips(0, 0, 0), 1);
+        doc.due("all places", Checks.wanted("..", "..").snips(0, 0, 0), 1);
+        doc.due("by corners", Checks.wanted(".#", "#.").snips(0, 0, 0), 2);
+        doc.due("round a corner", Checks.wanted("..", ".#").snips(0, 0, 0), 2);
+        doc.due("a cross: places twice", Checks.wanted("#.##", "....", "#.##", "#.##").snips(0, 0, 0), 2);
+        doc.due("three", Checks.wanted("####", ".###", "..##", "...#").snips(0, 0, 0), 3);
+        doc.due("four", Checks.wanted(".#.#", "#.#.", "####", "####").snips(0, 0, 0), 4);
+        doc.due("a ring", Checks.wanted("....", ".##.", ".##.", "....").snips(0, 0, 0), 4);
+        doc.due("fewer by folds", Checks.wanted("....", ".##.", ".##.", "....").snips(1, 1, 0), 2);
+        doc.due("one place of one", Checks.wanted("..", "..").snips(1, 1, 0), 1);
+        doc.due("no place of one", Checks.wanted("##", "##").snips(1, 1, 0), 0);
         doc.says("-2: more than 4;");
-        doc.due("five", wanted(".#.#", "#.#.", ".###", "####").snips(0, 0, 0), -2);
-        doc.due("eight", wanted(".#.#", "#.#.", ".#.#", "#.#.").snips(0, 0, 0), -2);
+        doc.due("five", Checks.wanted(".#.#", "#.#.", ".###", "####").snips(0, 0, 0), -2);
+        doc.due("eight", Checks.wanted(".#.#", "#.#.", ".#.#", "#.#.").snips(0, 0, 0), -2);
         doc.due("most", Checks.sheet(8).snips(0, 0, 0), 0);
         PaperStars chess = Checks.cooked(8, ":c([x+y]%2=1)");
         chess.wantOpened();
         doc.due("chess of 8", chess.snips(0, 0, 0), -2);
         // a ring with a cell in its middle
-        doc.due("a ring and one", wanted("......", ".####.", ".#.##.", ".####.", ".####.", "......")
+        doc.due("a ring and one", Checks.wanted("......", ".####.", ".#.##.", ".####.", ".####.", "......")
                 .snips(0, 0, 0), -2);
     }
 
     private void snipsBySlant() {
         doc.says("the fewest r (both ends in the WEDGE; places more than once are no harm),");
-        doc.due("the whole corner is one", wanted("....", "....", "....", "....").snips(0, 0, 1), 1);
-        doc.due("two on the slant", wanted("#.##", "..##", "##..", "##.#").snips(0, 0, 1), 2);
-        doc.due("the slant alone", wanted(".###", "#.##", "##.#", "###.").snips(0, 0, 1), 4);
-        doc.due("beside the slant", wanted("#.##", ".#.#", "#.#.", "##.#").snips(0, 0, 1), 3);
+        doc.due("the whole corner is one", Checks.wanted("....", "....", "....", "....").snips(0, 0, 1), 1);
+        doc.due("two on the slant", Checks.wanted("#.##", "..##", "##..", "##.#").snips(0, 0, 1), 2);
+        doc.due("the slant alone", Checks.wanted(".###", "#.##", "##.#", "###.").snips(0, 0, 1), 4);
+        doc.due("beside the slant", Checks.wanted("#.##", ".#.#", "#.#.", "##.#").snips(0, 0, 1), 3);
         // what is beside the wedge is no harm within a box
-        doc.due("a box over the slant", wanted("#...", "....", "....", "....").snips(0, 0, 1), 1);
-        doc.due("two over the slant", wanted("....", ".#..", "....", "....").snips(0, 0, 1), 2);
-        doc.due("a corner of it", wanted("####", "#..#", "#..#", "####").snips(0, 0, 1), 1);
-        doc.due("of 2", wanted("#.", "..").snips(0, 0, 1), 1);
-        doc.due("of 2", wanted(".#", "#.").snips(0, 0, 1), 2);
+        doc.due("a box over the slant", Checks.wanted("#...", "....", "....", "....").snips(0, 0, 1), 1);
+        doc.due("two over the slant", Checks.wanted("....", ".#..", "....", "....").snips(0, 0, 1), 2);
+        doc.due("a corner of it", Checks.wanted("####", "#..#", "#..#", "####").snips(0, 0, 1), 1);
+        doc.due("of 2", Checks.wanted("#.", "..").snips(0, 0, 1), 1);
+        doc.due("of 2", Checks.wanted(".#", "#.").snips(0, 0, 1), 2);
         PaperStars five = Checks.cooked(10, "d:c(x=y&x%2=0)");
         five.wantOpened();
         doc.due("five on the slant", five.snips(0, 0, 1), -2);
@@ -119,7 +113,7 @@ final class SnipSentences {
 
     private void noSnips() {
         doc.says("-3: they do not FIT;");
-        PaperStars stars = wanted("#.##", "####", "####", "####");
+        PaperStars stars = Checks.wanted("#.##", "####", "####", "####");
         doc.due("h", stars.snips(1, 0, 0), -3);
         doc.due("v", stars.snips(0, 1, 0), -3);
         doc.due("d", stars.snips(0, 0, 1), -3);
@@ -156,14 +150,14 @@ final class SnipSentences {
                 + " the first p, then q, then c.");
         doc.says("STRAIGHT by FOLDS, what 0 p, 1 q, 2 c;");
         int[] none = {0, 0, 0};
-        line("the first column", wanted(".#", ".#"), none, -3, -2, -3);
-        line("the first place", wanted(".#", "##"), none, -3, -3, -3);
-        line("the last place", wanted("##", "#."), none, 1, 1, 1);
-        line("all but the last", wanted("..", ".#"), none, -3, -3, -6);
-        line("all but the first", wanted("#.", ".."), none, 1, 1, 0);
-        line("the last row", wanted("##", ".."), none, -2, 3, 0);
-        line("by h", wanted(".##.", ".##.", ".##.", ".##."), new int[] {1, 0, 0}, -3, 0, -3);
-        line("by d", wanted("##", "#."), new int[] {0, 0, 1}, -2, 3, 0);
+        line("the first column", Checks.wanted(".#", ".#"), none, -3, -2, -3);
+        line("the first place", Checks.wanted(".#", "##"), none, -3, -3, -3);
+        line("the last place", Checks.wanted("##", "#."), none, 1, 1, 1);
+        line("all but the last", Checks.wanted("..", ".#"), none, -3, -3, -6);
+        line("all but the first", Checks.wanted("#.", ".."), none, 1, 1, 0);
+        line("the last row", Checks.wanted("##", ".."), none, -2, 3, 0);
+        line("by h", Checks.wanted(".##.", ".##.", ".##.", ".##."), new int[] {1, 0, 0}, -3, 0, -3);
+        line("by d", Checks.wanted("##", "#."), new int[] {0, 0, 1}, -2, 3, 0);
         for (int size = 2; size <= 4; size += 2) {
             allLines(size);
         }
@@ -246,15 +240,15 @@ final class SnipSentences {
 
     private void noStraight() {
         doc.says("-1000: there is none, they do not FIT, no such ones.");
-        PaperStars stars = wanted("#..#", "####", "####", "####");
+        PaperStars stars = Checks.wanted("#..#", "####", "####", "####");
         for (int what = 0; what <= 2; what++) {
             doc.due("there is none", stars.straight(0, 0, 0, what), -1000);
             doc.due("they do not fit", stars.straight(0, 1, 0, what), -1000);
             doc.due("no such a", stars.straight(3, 0, 0, what), -1000);
             doc.due("none is bare", Checks.sheet(4).straight(0, 0, 0, what), -1000);
-            doc.due("all are bare", wanted("..", "..").straight(0, 0, 0, what), -1000);
-            doc.due("all are bare by folds", wanted("..", "..").straight(1, 1, 0, what), -1000);
-            doc.due("two corners", wanted(".#", "#.").straight(0, 0, 0, what), -1000);
+            doc.due("all are bare", Checks.wanted("..", "..").straight(0, 0, 0, what), -1000);
+            doc.due("all are bare by folds", Checks.wanted("..", "..").straight(1, 1, 0, what), -1000);
+            doc.due("two corners", Checks.wanted(".#", "#.").straight(0, 0, 0, what), -1000);
         }
         doc.due("it is by h", stars.straight(1, 0, 0, 0), 1);
         doc.due("what -1", stars.straight(1, 0, 0, -1), -1000);
@@ -303,13 +297,13 @@ final class SnipSentences {
         PaperStars six = Checks.sheet(6);
         doc.due("0 of 6", six.scraps(0, -1), 6);
         doc.due("0 of 6, the last", six.scraps(0, 5), 111);
-        PaperStars corner = wanted(".#", "##");
+        PaperStars corner = Checks.wanted(".#", "##");
         doc.due("only what fits", corner.scraps(1, -1), 2);
         doc.due("only what fits", corner.scraps(1, 1), 1);
     }
 
     private void noScraps() {
-        PaperStars stars = wanted("#..#", "####", "####", "#..#");
+        PaperStars stars = Checks.wanted("#..#", "####", "####", "#..#");
         doc.says("-2: there is none such;");
         doc.due("of 1, 0", stars.scraps(1, 0), 110);
         doc.due("of 1, 1", stars.scraps(1, 1), -2);

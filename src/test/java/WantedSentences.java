@@ -23,12 +23,6 @@ final class WantedSentences {
         all.bestFoldNumbers();
     }
 
-    private static PaperStars wanted(String... rows) {
-        PaperStars stars = Checks.sheet(rows.length);
-        Checks.wantRows(stars, rows);
-        return stars;
-    }
-
     private void want() {
         for (int size = 2; size <= 16; size += 2) {
             doc.says("WANTED: a pattern: of each CELL whether it has PAPER ");
@@ -153,27 +147,27 @@ final class WantedSentences {
     private void fits() {
         doc.says("FITS such a FOLD, if CELLS that come to one place are all with PAPER or all"
                 + " without;");
-        doc.due("no folds fit all", wanted("#.", "..").fits(0, 0, 0), 1);
-        doc.due("all bare", wanted("..", "..").fits(1, 1, 0), 1);
-        doc.due("h", wanted("..", "##").fits(1, 0, 0), 1);
-        doc.due("v", wanted(".#", ".#").fits(0, 1, 0), 1);
-        doc.due("d", wanted("#.", ".#").fits(0, 0, 1), 1);
-        doc.due("d", wanted("#.", "..").fits(0, 0, 1), 1);
-        doc.due("h, v", wanted("#..#", "####", "####", "#..#").fits(1, 1, 0), 1);
+        doc.due("no folds fit all", Checks.wanted("#.", "..").fits(0, 0, 0), 1);
+        doc.due("all bare", Checks.wanted("..", "..").fits(1, 1, 0), 1);
+        doc.due("h", Checks.wanted("..", "##").fits(1, 0, 0), 1);
+        doc.due("v", Checks.wanted(".#", ".#").fits(0, 1, 0), 1);
+        doc.due("d", Checks.wanted("#.", ".#").fits(0, 0, 1), 1);
+        doc.due("d", Checks.wanted("#.", "..").fits(0, 0, 1), 1);
+        doc.due("h, v", Checks.wanted("#..#", "####", "####", "#..#").fits(1, 1, 0), 1);
         doc.says("it DIFFERS at the first CELL (by numbers) that is unlike an earlier one of its"
                 + " place.");
         doc.says("Whether FOLDS a, b, d FIT what is WANTED: 1; else -10 less the CELL at which it"
                 + " DIFFERS;");
-        doc.due("the lowest that can be", wanted("#.", "##").fits(1, 0, 0), -11);
-        doc.due("by rows", wanted("##", "#.").fits(1, 0, 0), -10 - 17);
-        doc.due("v", wanted("#.", "##").fits(0, 1, 0), -10 - 17);
-        doc.due("v", wanted(".#", "##").fits(0, 1, 0), -10 - 16);
-        doc.due("d", wanted("#.", "##").fits(0, 0, 1), -10 - 16);
-        doc.due("the first of two", wanted("#.#.", "####", "####", "####").fits(1, 0, 0), -12);
+        doc.due("the lowest that can be", Checks.wanted("#.", "##").fits(1, 0, 0), -11);
+        doc.due("by rows", Checks.wanted("##", "#.").fits(1, 0, 0), -10 - 17);
+        doc.due("v", Checks.wanted("#.", "##").fits(0, 1, 0), -10 - 17);
+        doc.due("v", Checks.wanted(".#", "##").fits(0, 1, 0), -10 - 16);
+        doc.due("d", Checks.wanted("#.", "##").fits(0, 0, 1), -10 - 16);
+        doc.due("the first of two", Checks.wanted("#.#.", "####", "####", "####").fits(1, 0, 0), -12);
         // 1 is the first of its place; 2 is unlike it, though 1 is the cell that was changed
-        doc.due("not the first of a place", wanted("#.##", "####", "####", "####").fits(1, 0, 0),
+        doc.due("not the first of a place", Checks.wanted("#.##", "####", "####", "####").fits(1, 0, 0),
                 -12);
-        doc.due("hh", wanted("#.##", "####", "####", "####").fits(2, 0, 0), -11);
+        doc.due("hh", Checks.wanted("#.##", "####", "####", "####").fits(2, 0, 0), -11);
         PaperStars last = new PaperStars();
         last.want(15, 32767);
         doc.due("the last cell by h", last.fits(1, 0, 0), -265);
@@ -195,13 +189,13 @@ final class WantedSentences {
         best("whole of 6", Checks.sheet(6), 1, 1, 1, 6, 0);
         best("whole of 12", Checks.sheet(12), 2, 2, 1, 6, 0);
         best("whole of 14", Checks.sheet(14), 1, 1, 1, 28, 0);
-        best("bare of 2", wanted("..", ".."), 1, 1, 0, 1, 1);
-        best("no fold", wanted("#.", "##"), 0, 0, 0, 4, 1);
-        best("h", wanted("..", "##"), 1, 0, 0, 2, 1);
-        best("v", wanted(".#", ".#"), 0, 1, 0, 2, 1);
-        best("d", wanted("#.", ".#"), 0, 0, 1, 3, 1);
-        best("d", wanted("#.", ".."), 0, 0, 1, 3, 2);
-        best("hvd", wanted("#..#", ".##.", ".##.", "#..#"), 1, 1, 1, 3, 1);
+        best("bare of 2", Checks.wanted("..", ".."), 1, 1, 0, 1, 1);
+        best("no fold", Checks.wanted("#.", "##"), 0, 0, 0, 4, 1);
+        best("h", Checks.wanted("..", "##"), 1, 0, 0, 2, 1);
+        best("v", Checks.wanted(".#", ".#"), 0, 1, 0, 2, 1);
+        best("d", Checks.wanted("#.", ".#"), 0, 0, 1, 3, 1);
+        best("d", Checks.wanted("#.", ".."), 0, 0, 1, 3, 2);
+        best("hvd", Checks.wanted("#..#", ".##.", ".##.", "#..#"), 1, 1, 1, 3, 1);
         PaperStars big = new PaperStars();
         big.want(0, 65533);
         best("none of 16", big, 0, 0, 0, 256, 1);
@@ -278,7 +272,7 @@ final class WantedSentences {
     private void bestFoldNumbers() {
         doc.says("THE BEST FOLD, what 0 a, 1 b, 2 d, 3 places, 4 places without PAPER;"
                 + " NONE for others.");
-        PaperStars stars = wanted("#..#", ".##.", ".##.", "#..#");
+        PaperStars stars = Checks.wanted("#..#", ".##.", ".##.", "#..#");
         int[] answers = {-1, 1, 1, 1, 3, 1, -1};
         for (int i = 0; i < answers.length; i++) {
             doc.due("bestFold " + (i - 1), stars.bestFold(i - 1), answers[i]);
