@@ -1382,8 +1382,7 @@ public final class PaperStars {
         }
 
         private boolean seesDigit() {
-            int sign = look();
-            return sign >= '0' && sign <= '9';
+            return at >= 0 && at < end && text[at] >= '0' && text[at] <= '9';
         }
 
         private void fail(int number, int place) {
